@@ -1,10 +1,33 @@
+import java.lang.reflect.InvocationTargetException;
+import java.lang.reflect.Method;
+import java.util.Arrays;
 import java.util.Random;
 
 /** Runs of calls, the same each time, answered by the class and by the model of the document. */
 public final class ModelTest {
     private static final int RUNS = 400;
     private static final int CALLS = 512;
-    private static final int KINDS = 26;
+    private static final String[] NAMES = {
+        "wind", "vane", "mill", "set", "bring", "takeBack", "pass", "append", "clearBuffer", "firstError", "load",
+        "keep", "goBack", "undo", "hourOf", "vaneOf", "millOf", "ownerOf", "count", "setting", "doneIn", "ifPassed",
+        "turnsIn", "mainVane", "turnShare", "digest",
+    };
+    private static final int KINDS = NAMES.length;
+    private static final Method[] OF_CLASS = methodsOf(VaneVotes.class);
+    private static final Method[] OF_MODEL = methodsOf(Model.class);
+    private static final Class<?>[] EXCEPTIONS = {
+        IndexOutOfBoundsException.class, IllegalArgumentException.class, IllegalStateException.class,
+    };
+    private static final int VANE = kindOf("vane");
+    private static final int SET = kindOf("set");
+    private static final int BRING = kindOf("bring");
+    private static final int PASS = kindOf("pass");
+    private static final int APPEND = kindOf("append");
+    private static final int CLEAR_BUFFER = kindOf("clearBuffer");
+    private static final int FIRST_ERROR = kindOf("firstError");
+    private static final int LOAD = kindOf("load");
+    private static final int KEEP = kindOf("keep");
+    private static final int DIGEST = kindOf("digest");
     private static final long THREW = 1L << 40;
 
     private static final Checks CHECKS = new Checks();
@@ -32,20 +55,20 @@ public final class ModelTest {
             compare(object, model, kind, with);
             calls++;
             if (random.nextInt(6) == 0) {
-                compare(object, model, 25, with);
+                compare(object, model, DIGEST, with);
                 calls++;
             }
         }
-        compare(object, model, 25, new int[3]);
+        compare(object, model, DIGEST, new int[3]);
     }
 
     private static int kindFor(Random random, int manner) {
         if (random.nextInt(3) == 0) {
             switch (manner) {
-                case 2: return 4;
-                case 3: return random.nextBoolean() ? 6 : 4;
-                case 4: return 11 + random.nextInt(3);
-                case 5: return random.nextBoolean() ? 1 : 3;
+                case 2: return BRING;
+                case 3: return random.nextBoolean() ? PASS : BRING;
+                case 4: return KEEP + random.nextInt(3);
+                case 5: return random.nextBoolean() ? VANE : SET;
                 default: break;
             }
         }
@@ -63,36 +86,17 @@ public final class ModelTest {
         if (random.nextInt(3) == 0) {
             text.setCharAt(random.nextInt(text.length()), "0123456789=;x".charAt(random.nextInt(13)));
         }
-        compare(object, model, 8, new int[3]);
+        compare(object, model, CLEAR_BUFFER, new int[3]);
         for (int i = 0; i < text.length(); i++) {
-            compare(object, model, 7, new int[] {text.charAt(i), 0, 0});
+            compare(object, model, APPEND, new int[] {text.charAt(i), 0, 0});
         }
-        compare(object, model, 9, new int[3]);
-        compare(object, model, 10, new int[3]);
+        compare(object, model, FIRST_ERROR, new int[3]);
+        compare(object, model, LOAD, new int[3]);
         return text.length() + 3;
     }
 
     private static int[] arguments(int kind, Random random) {
-        int[] bounds;
-        switch (kind) {
-            case 0: bounds = new int[] {24, 8, 10}; break;
-            case 1: bounds = new int[] {6, 4, random.nextBoolean() ? 2 : 10}; break;
-            case 2: bounds = new int[] {3, 10, 1}; break;
-            case 3: bounds = new int[] {2, random.nextBoolean() ? 2 : 7, 1}; break;
-            case 4: bounds = new int[] {5, random.nextBoolean() ? 1 : 3, random.nextBoolean() ? 5 : 100}; break;
-            case 5: bounds = new int[] {3, 1, 1}; break;
-            case 6: bounds = new int[] {random.nextBoolean() ? 4 : 100, 1, 1}; break;
-            case 7: bounds = new int[] {127, 1, 1}; break;
-            case 11: case 12: case 19: bounds = new int[] {2, 1, 1}; break;
-            case 14: bounds = new int[] {24, 5, 1}; break;
-            case 15: bounds = new int[] {6, 6, 1}; break;
-            case 16: bounds = new int[] {3, 6, 1}; break;
-            case 17: bounds = new int[] {5, 4, 1}; break;
-            case 18: bounds = new int[] {9, 1, 1}; break;
-            case 20: bounds = new int[] {3, 2, 1}; break;
-            case 21: bounds = new int[] {5, 100, 1}; break;
-            default: bounds = new int[] {1, 1, 1}; break;
-        }
+        int[] bounds = boundsOf(NAMES[kind], random);
         int[] with = new int[3];
         for (int i = 0; i < 3; i++) {
             with[i] = random.nextInt(bounds[i]);
@@ -104,85 +108,64 @@ public final class ModelTest {
         return with;
     }
 
-    private static void compare(VaneVotes object, Model model, int kind, int[] with) {
-        long got = answer(object, kind, with[0], with[1], with[2]);
-        long want = answer(model, kind, with[0], with[1], with[2]);
-        CHECKS.due("kind " + kind + " with " + with[0] + ", " + with[1] + ", " + with[2], got, want);
-    }
-
-    private static long thrown(RuntimeException e) {
-        return THREW + (e.getClass() == IndexOutOfBoundsException.class ? 1
-            : e.getClass() == IllegalArgumentException.class ? 2
-            : e.getClass() == IllegalStateException.class ? 3 : 4);
-    }
-
-    private static long answer(VaneVotes x, int kind, int a, int b, int c) {
-        try {
-            switch (kind) {
-                case 0: return x.wind(a, b, c);
-                case 1: return x.vane(a, b, c);
-                case 2: return x.mill(a, b);
-                case 3: return x.set(a, b);
-                case 4: return x.bring(a, b, c);
-                case 5: return x.takeBack(a);
-                case 6: return x.pass(a);
-                case 7: return x.append(a);
-                case 8: return x.clearBuffer();
-                case 9: return x.firstError();
-                case 10: return x.load();
-                case 11: return x.keep(a);
-                case 12: return x.goBack(a);
-                case 13: return x.undo();
-                case 14: return x.hourOf(a, b);
-                case 15: return x.vaneOf(a, b);
-                case 16: return x.millOf(a, b);
-                case 17: return x.ownerOf(a, b);
-                case 18: return x.count(a);
-                case 19: return x.setting(a);
-                case 20: return x.doneIn(a, b);
-                case 21: return x.ifPassed(a, b);
-                case 22: return x.turnsIn();
-                case 23: return x.mainVane();
-                case 24: return Double.doubleToLongBits(x.turnShare());
-                default: return x.digest();
-            }
-        } catch (RuntimeException e) {
-            return thrown(e);
+    /** The arguments are below these, so that the most calls are good ones. */
+    private static int[] boundsOf(String name, Random random) {
+        switch (name) {
+            case "wind": return new int[] {24, 8, 10};
+            case "vane": return new int[] {6, 4, random.nextBoolean() ? 2 : 10};
+            case "mill": return new int[] {3, 10, 1};
+            case "set": return new int[] {2, random.nextBoolean() ? 2 : 7, 1};
+            case "bring": return new int[] {5, random.nextBoolean() ? 1 : 3, random.nextBoolean() ? 5 : 100};
+            case "takeBack": return new int[] {3, 1, 1};
+            case "pass": return new int[] {random.nextBoolean() ? 4 : 100, 1, 1};
+            case "append": return new int[] {127, 1, 1};
+            case "keep": case "goBack": case "setting": return new int[] {2, 1, 1};
+            case "hourOf": return new int[] {24, 5, 1};
+            case "vaneOf": return new int[] {6, 6, 1};
+            case "millOf": return new int[] {3, 6, 1};
+            case "ownerOf": return new int[] {5, 4, 1};
+            case "count": return new int[] {9, 1, 1};
+            case "doneIn": return new int[] {3, 2, 1};
+            case "ifPassed": return new int[] {5, 100, 1};
+            default: return new int[] {1, 1, 1};
         }
     }
 
-    private static long answer(Model x, int kind, int a, int b, int c) {
-        try {
-            switch (kind) {
-                case 0: return x.wind(a, b, c);
-                case 1: return x.vane(a, b, c);
-                case 2: return x.mill(a, b);
-                case 3: return x.set(a, b);
-                case 4: return x.bring(a, b, c);
-                case 5: return x.takeBack(a);
-                case 6: return x.pass(a);
-                case 7: return x.append(a);
-                case 8: return x.clearBuffer();
-                case 9: return x.firstError();
-                case 10: return x.load();
-                case 11: return x.keep(a);
-                case 12: return x.goBack(a);
-                case 13: return x.undo();
-                case 14: return x.hourOf(a, b);
-                case 15: return x.vaneOf(a, b);
-                case 16: return x.millOf(a, b);
-                case 17: return x.ownerOf(a, b);
-                case 18: return x.count(a);
-                case 19: return x.setting(a);
-                case 20: return x.doneIn(a, b);
-                case 21: return x.ifPassed(a, b);
-                case 22: return x.turnsIn();
-                case 23: return x.mainVane();
-                case 24: return Double.doubleToLongBits(x.turnShare());
-                default: return x.digest();
+    private static int kindOf(String name) {
+        return Arrays.asList(NAMES).indexOf(name);
+    }
+
+    private static void compare(VaneVotes object, Model model, int kind, int[] with) {
+        long got = answer(object, OF_CLASS[kind], with);
+        long want = answer(model, OF_MODEL[kind], with);
+        CHECKS.due(NAMES[kind] + " with the first of " + Arrays.toString(with), got, want);
+    }
+
+    private static Method[] methodsOf(Class<?> type) {
+        Method[] methods = new Method[KINDS];
+        for (Method method : type.getDeclaredMethods()) {
+            int kind = Arrays.asList(NAMES).indexOf(method.getName());
+            if (kind >= 0) {
+                methods[kind] = method;
             }
-        } catch (RuntimeException e) {
-            return thrown(e);
+        }
+        return methods;
+    }
+
+    /** What the call answered, or a number for what it threw. */
+    private static long answer(Object object, Method method, int[] with) {
+        Object[] arguments = new Object[method.getParameterCount()];
+        for (int i = 0; i < arguments.length; i++) {
+            arguments[i] = with[i];
+        }
+        try {
+            Object got = method.invoke(object, arguments);
+            return got instanceof Double ? Double.doubleToRawLongBits((Double) got) : ((Number) got).longValue();
+        } catch (InvocationTargetException e) {
+            int index = Arrays.asList(EXCEPTIONS).indexOf(e.getCause().getClass());
+            return THREW + index;
+        } catch (IllegalAccessException e) {
+            throw new IllegalStateException(e);
         }
     }
 }
