@@ -1,5 +1,12 @@
+import java.util.function.Consumer;
+import java.util.function.Supplier;
+
 /** Counts and prints the answers that are not the ones that are due. */
 final class Checks {
+    static final Class<?> INDEX = IndexOutOfBoundsException.class;
+    static final Class<?> ARGUMENT = IllegalArgumentException.class;
+    static final Class<?> STATE = IllegalStateException.class;
+
     /** A call that may throw. */
     interface Call {
         void run();
@@ -10,6 +17,16 @@ final class Checks {
 
     void begin(String name) {
         part = name;
+    }
+
+    /** A test of its own for a sentence; what it throws unasked does not keep the other tests from running. */
+    void test(String sentence, Call body) {
+        begin(sentence);
+        try {
+            body.run();
+        } catch (RuntimeException e) {
+            report("threw " + e);
+        }
     }
 
     void due(String call, long got, long want) {
@@ -30,21 +47,42 @@ final class Checks {
         }
     }
 
-    /** The call throws just this exception, and changes nothing. */
+    /** The call throws just this exception, and changes nothing that the digest tells. */
     void dueThrow(String call, VaneVotes object, Class<?> want, Call run) {
         long before = object.digest();
-        Class<?> got = null;
-        try {
-            run.run();
-        } catch (RuntimeException e) {
-            got = e.getClass();
-        }
-        if (got != want) {
-            report(call + " threw " + got + ", due is " + want);
-        }
+        dueThrown(call, thrownBy(run), want);
         if (object.digest() != before) {
             report(call + " threw and changed something");
         }
+    }
+
+    /** The call throws just this exception, and changes nothing at all, slots and saved states among it. */
+    void dueThrow(String call, Supplier<VaneVotes> maker, Class<?> want, Consumer<VaneVotes> use) {
+        dueNoChange(call, maker, x -> dueThrown(call, thrownBy(() -> use.accept(x)), want));
+    }
+
+    void dueNoChange(String call, Supplier<VaneVotes> maker, Consumer<VaneVotes> use) {
+        VaneVotes back = maker.get();
+        use.accept(back);
+        dueTrue(call + " changed something", Villages.wayBack(back).equals(Villages.wayBack(maker.get())));
+        VaneVotes rows = maker.get();
+        use.accept(rows);
+        dueTrue(call + " changed a row of lots", Villages.rows(rows).equals(Villages.rows(maker.get())));
+    }
+
+    private void dueThrown(String call, Class<?> got, Class<?> want) {
+        if (got != want) {
+            report(call + " threw " + got + ", due is " + want);
+        }
+    }
+
+    private static Class<?> thrownBy(Call run) {
+        try {
+            run.run();
+        } catch (RuntimeException e) {
+            return e.getClass();
+        }
+        return null;
     }
 
     void report(String text) {

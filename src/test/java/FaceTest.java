@@ -8,15 +8,34 @@ import java.util.TreeSet;
 
 /** The face of the class is the document's, and there is nothing beside it. */
 public final class FaceTest {
+    /** Behind each method what its throws clause names, in order. */
     private static final String[] FACE = {
-        "int wind(int,int,int)", "int vane(int,int,int)", "int mill(int,int)", "int set(int,int)",
-        "int bring(int,int,int)", "int takeBack(int)", "int pass(int)",
-        "int append(int)", "int clearBuffer()", "int firstError()", "int load()",
-        "int keep(int)", "int goBack(int)", "int undo()",
-        "int hourOf(int,int)", "int vaneOf(int,int)", "int millOf(int,int)", "int ownerOf(int,int)",
-        "int count(int)", "int setting(int)",
-        "int doneIn(int,int)", "int ifPassed(int,int)", "int turnsIn()", "int mainVane()",
-        "double turnShare()", "long digest()",
+        "int wind(int,int,int) throws IndexOutOfBounds IllegalArgument",
+        "int vane(int,int,int) throws IndexOutOfBounds IllegalArgument",
+        "int mill(int,int) throws IndexOutOfBounds IllegalArgument",
+        "int set(int,int) throws IndexOutOfBounds IllegalArgument",
+        "int bring(int,int,int) throws IndexOutOfBounds IllegalArgument",
+        "int takeBack(int) throws IndexOutOfBounds",
+        "int pass(int) throws IllegalArgument IllegalState",
+        "int append(int) throws IllegalArgument IllegalState",
+        "int clearBuffer()",
+        "int firstError()",
+        "int load() throws IllegalArgument",
+        "int keep(int) throws IllegalArgument",
+        "int goBack(int) throws IllegalArgument IllegalState",
+        "int undo() throws IllegalState",
+        "int hourOf(int,int) throws IndexOutOfBounds IllegalArgument",
+        "int vaneOf(int,int) throws IndexOutOfBounds IllegalArgument",
+        "int millOf(int,int) throws IndexOutOfBounds IllegalArgument",
+        "int ownerOf(int,int) throws IndexOutOfBounds IllegalArgument",
+        "int count(int) throws IllegalArgument",
+        "int setting(int) throws IndexOutOfBounds",
+        "int doneIn(int,int) throws IndexOutOfBounds IllegalArgument",
+        "int ifPassed(int,int) throws IndexOutOfBounds IllegalArgument",
+        "int turnsIn()",
+        "int mainVane()",
+        "double turnShare()",
+        "long digest()",
     };
 
     public static void main(String[] args) {
@@ -55,7 +74,12 @@ public final class FaceTest {
         for (int i = 0; i < method.getParameterTypes().length; i++) {
             text.append(i == 0 ? "" : ",").append(method.getParameterTypes()[i]);
         }
-        return text.append(')').toString();
+        text.append(')');
+        for (Class<?> thrown : method.getExceptionTypes()) {
+            text.append(text.indexOf(" throws ") < 0 ? " throws " : " ");
+            text.append(thrown.getSimpleName().replace("Exception", ""));
+        }
+        return text.toString();
     }
 
     private static void fieldsAndConstructors(Checks checks) {

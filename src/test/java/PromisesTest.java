@@ -1,8 +1,8 @@
 /** One method a promise; the answers are worked out by hand from the document. */
 public final class PromisesTest {
-    private static final Class<?> INDEX = IndexOutOfBoundsException.class;
-    private static final Class<?> ARGUMENT = IllegalArgumentException.class;
-    private static final Class<?> STATE = IllegalStateException.class;
+    private static final Class<?> INDEX = Checks.INDEX;
+    private static final Class<?> ARGUMENT = Checks.ARGUMENT;
+    private static final Class<?> STATE = Checks.STATE;
     /** Just as long as the buffer. */
     private static final String FULL_TEXT = "10=00;1=00;2=00;3=00;4=00;5=00;6=00;7=00;8=00;9=00;9=12;9=34";
     private static final int[] ODD = {Integer.MIN_VALUE, -1, 1000000, Integer.MAX_VALUE};
@@ -44,26 +44,6 @@ public final class PromisesTest {
         digest();
         looksChangeNothing();
         C.end();
-    }
-
-    private static void type(VaneVotes x, String text) {
-        x.clearBuffer();
-        for (int i = 0; i < text.length(); i++) {
-            x.append(text.charAt(i));
-        }
-    }
-
-    /** A village in which every hour has the wind, and all vanes agree with it. */
-    private static VaneVotes steady(int strength) {
-        VaneVotes x = new VaneVotes();
-        for (int hour = 0; hour < 24; hour++) {
-            x.wind(hour, 3, strength);
-        }
-        for (int vane = 0; vane < 6; vane++) {
-            x.vane(vane, 0, 3);
-            x.vane(vane, 2, 0);
-        }
-        return x;
     }
 
     private static void newObject() {
@@ -254,7 +234,7 @@ public final class PromisesTest {
 
     private static void takingBack() {
         C.begin("promise 7");
-        VaneVotes x = steady(4);
+        VaneVotes x = Villages.steady(4);
         x.bring(1, 0, 5);
         x.bring(2, 0, 9);
         C.due("the last lot", x.takeBack(0), 9);
@@ -299,7 +279,7 @@ public final class PromisesTest {
 
     private static void passingIsGrindingFromTheFirstLot() {
         C.begin("promise 8, grinding");
-        VaneVotes x = steady(9);
+        VaneVotes x = Villages.steady(9);
         x.mill(0, 3);
         x.mill(1, 1);
         x.mill(2, 0);
@@ -357,7 +337,7 @@ public final class PromisesTest {
         C.begin("promise 10");
         VaneVotes x = new VaneVotes();
         C.due("an empty buffer", x.clearBuffer(), 0);
-        type(x, "0=00");
+        Villages.type(x, "0=00");
         C.due("four characters", x.clearBuffer(), 4);
         C.due("cleared", x.clearBuffer(), 0);
         C.due("append", x.append('0'), 1);
@@ -373,7 +353,7 @@ public final class PromisesTest {
         };
         for (String text : good) {
             VaneVotes x = new VaneVotes();
-            type(x, text);
+            Villages.type(x, text);
             C.due("firstError of " + text, x.firstError(), text.length());
         }
         String[][] bad = {
@@ -385,7 +365,7 @@ public final class PromisesTest {
         };
         for (String[] text : bad) {
             VaneVotes x = new VaneVotes();
-            type(x, text[0] + text[1]);
+            Villages.type(x, text[0] + text[1]);
             C.due("firstError of " + text[0] + text[1], x.firstError(), text[0].length());
         }
     }
@@ -393,7 +373,7 @@ public final class PromisesTest {
     private static void loading() {
         C.begin("promise 12");
         VaneVotes x = new VaneVotes();
-        type(x, "0=35;23=09;0=46;10=71");
+        Villages.type(x, "0=35;23=09;0=46;10=71");
         C.due("agreeing hours", x.load(), 11);
         C.due("the last one for an hour counts", x.hourOf(0, 0) * 10 + x.hourOf(0, 1), 46);
         C.due("hour 23", x.hourOf(23, 0) * 10 + x.hourOf(23, 1), 9);
@@ -402,19 +382,19 @@ public final class PromisesTest {
         C.due("the buffer is cleared", x.clearBuffer(), 0);
         String[] bad = {"", "0", "0=", "0=3", "0=34;", "0=34;1", "00=34", "24=34", "0=84", "0=34;;1=34", "x", "0=340"};
         for (String text : bad) {
-            type(x, text);
+            Villages.type(x, text);
             C.dueThrow("load of " + text, x, ARGUMENT, () -> x.load());
             C.due("the buffer stays", x.clearBuffer(), text.length());
         }
         for (int hour = 0; hour < 24; hour++) {
-            type(x, hour + "=" + hour % 7 + hour % 9);
+            Villages.type(x, hour + "=" + hour % 7 + hour % 9);
             x.load();
             C.due("wind of " + hour, x.hourOf(hour, 0) * 10 + x.hourOf(hour, 1), 10 * (hour % 7) + hour % 9);
         }
-        type(x, "1=11;1=22;1=33;1=44;1=55;1=66;1=77;1=08;1=19;1=20;1=31;1=42");
+        Villages.type(x, "1=11;1=22;1=33;1=44;1=55;1=66;1=77;1=08;1=19;1=20;1=31;1=42");
         x.load();
         C.due("a long text", x.hourOf(1, 0) * 10 + x.hourOf(1, 1), 42);
-        type(x, FULL_TEXT);
+        Villages.type(x, FULL_TEXT);
         x.load();
         C.due("a full buffer", x.hourOf(9, 0) * 10 + x.hourOf(9, 1), 34);
         x.undo();
@@ -443,7 +423,7 @@ public final class PromisesTest {
 
     private static void goingBack() {
         C.begin("promise 14");
-        VaneVotes x = steady(4);
+        VaneVotes x = Villages.steady(4);
         x.takeBack(0);
         x.bring(1, 1, 20);
         x.bring(2, 1, 20);
@@ -451,7 +431,7 @@ public final class PromisesTest {
         x.pass(3);
         x.keep(1);
         C.dueThrow("the other slot", x, STATE, () -> x.goBack(0));
-        long then = digestWithout(x);
+        long then = Villages.digestWithout(x);
         x.wind(3, 1, 1);
         x.vane(1, 3, 1);
         x.vane(2, 1, 0);
@@ -462,14 +442,14 @@ public final class PromisesTest {
         x.takeBack(2);
         x.takeBack(1);
         x.pass(30);
-        type(x, "ab");
+        Villages.type(x, "ab");
         C.due("goBack(1)", x.goBack(1), 3);
         C.due("saved states stay", x.count(8), 6);
         C.due("the buffer stays", x.clearBuffer(), 2);
-        C.due("all is as it was", digestWithout(x), then);
+        C.due("all is as it was", Villages.digestWithout(x), then);
         x.pass(1);
         C.due("the snapshot stays", x.goBack(1), 3);
-        C.due("all is as it was", digestWithout(x), then);
+        C.due("all is as it was", Villages.digestWithout(x), then);
         x.undo();
         C.due("undo of goBack", x.count(0), 4);
         x.undo();
@@ -487,34 +467,16 @@ public final class PromisesTest {
         C.due("undo does not empty a slot", y.goBack(0), 2);
     }
 
-    /** A hash of what snapshots hold: all answers but count(8), the slots and the buffer. */
-    private static long digestWithout(VaneVotes x) {
-        long hash = 1;
-        for (int what = 0; what < 8; what++) {
-            hash = 31 * hash + x.count(what);
-        }
-        for (int i = 0; i < 24; i++) {
-            hash = 31 * hash + x.hourOf(i, 0) * 10 + x.hourOf(i, 1);
-            hash = 31 * hash + x.vaneOf(i / 4, i % 4);
-        }
-        for (int i = 0; i < 15; i++) {
-            hash = 31 * hash + x.millOf(i / 5, i % 5);
-            hash = 31 * hash + x.ownerOf(i / 3, i % 3 + 1);
-            hash = 31 * hash + x.ownerOf(i / 3, 0);
-        }
-        return 31 * (31 * hash + x.setting(0)) + x.setting(1);
-    }
-
     private static void undoing() {
         C.begin("promise 15");
-        VaneVotes x = steady(4);
+        VaneVotes x = Villages.steady(4);
         x.bring(1, 0, 9);
         x.takeBack(1);
-        long before = digestWithout(x);
-        type(x, "ab");
+        long before = Villages.digestWithout(x);
+        Villages.type(x, "ab");
         x.pass(2);
         C.due("states left", x.undo(), 5);
-        C.due("all is as it was", digestWithout(x), before);
+        C.due("all is as it was", Villages.digestWithout(x), before);
         C.due("the buffer stays", x.clearBuffer(), 2);
         C.due("refused", x.count(7), 1);
         C.due("undo of what was refused", x.undo(), 4);
@@ -550,7 +512,7 @@ public final class PromisesTest {
         C.begin("promises 2 to 15, undoable");
         VaneVotes x = new VaneVotes();
         x.keep(0);
-        type(x, "0=00");
+        Villages.type(x, "0=00");
         Checks.Call[] undoable = {
             () -> x.wind(0, 0, 0), () -> x.vane(0, 0, 0), () -> x.mill(0, 2), () -> x.set(0, 3),
             () -> x.bring(0, 0, 1), () -> x.takeBack(1), () -> x.pass(1), () -> x.load(), () -> x.goBack(0),
@@ -671,7 +633,7 @@ public final class PromisesTest {
 
     private static void looksAtOwners() {
         C.begin("promise 19");
-        VaneVotes x = steady(2);
+        VaneVotes x = Villages.steady(2);
         x.bring(0, 0, 5);
         x.bring(4, 0, 6);
         x.bring(0, 1, 7);
@@ -835,7 +797,7 @@ public final class PromisesTest {
         x.vane(0, 3, 1);
         C.due("never", x.turnsIn(), VaneVotes.NONE);
         VaneVotes y = new VaneVotes();
-        type(y, "1=00;2=00;3=00;4=00;9=00;11=00;12=00;17=00;18=00;19=00");
+        Villages.type(y, "1=00;2=00;3=00;4=00;9=00;11=00;12=00;17=00;18=00;19=00");
         C.due("load", y.load(), 0);
         C.due("no hour", y.turnsIn(), VaneVotes.NONE);
         y.wind(5, 3, 1);
@@ -871,44 +833,8 @@ public final class PromisesTest {
                 x.wind(hour, 3, hour < turning ? 1 : 0);
             }
             C.dueDouble("hours " + turning, x.turnShare(), turning / 24.0);
-            C.due("digest with hours " + turning, x.digest(), digestOf(x, 0, 0, ""));
+            C.due("digest with hours " + turning, x.digest(), Villages.digestOf(x, 0, 0, ""));
         }
-    }
-
-    /** The hash told by the document, from the other answers. */
-    private static long digestOf(VaneVotes x, int first, int second, String text) {
-        long hash = 3671;
-        for (int what = 0; what <= 8; what++) {
-            hash = 31 * hash + x.count(what);
-        }
-        hash = 31 * hash + x.setting(0);
-        hash = 31 * hash + x.setting(1);
-        for (int i = 0; i < 24 * 5; i++) {
-            hash = 31 * hash + x.hourOf(i / 5, i % 5);
-        }
-        for (int i = 0; i < 6 * 6; i++) {
-            hash = 31 * hash + x.vaneOf(i / 6, i % 6);
-        }
-        for (int mill = 0; mill < 3; mill++) {
-            for (int what = 0; what <= 5; what++) {
-                hash = 31 * hash + x.millOf(mill, what);
-            }
-            hash = 31 * (31 * hash + x.doneIn(mill, 0)) + x.doneIn(mill, 1);
-        }
-        for (int owner = 0; owner < 5; owner++) {
-            for (int what = 0; what <= 3; what++) {
-                hash = 31 * hash + x.ownerOf(owner, what);
-            }
-            hash = 31 * hash + x.ifPassed(owner, 9);
-        }
-        hash = 31 * (31 * hash + x.turnsIn()) + x.mainVane();
-        hash = 31 * hash + Double.doubleToLongBits(x.turnShare());
-        hash = 31 * (31 * hash + first) + second;
-        hash = 31 * hash + text.length();
-        for (int i = 0; i < text.length(); i++) {
-            hash = 31 * hash + text.charAt(i);
-        }
-        return hash;
     }
 
     /** Objects are made anew for each hash, as an object has but 512 calls. */
@@ -927,21 +853,21 @@ public final class PromisesTest {
     private static void digest() {
         C.begin("promise 27");
         VaneVotes first = new VaneVotes();
-        C.due("at first", first.digest(), digestOf(first, 0, 0, ""));
+        C.due("at first", first.digest(), Villages.digestOf(first, 0, 0, ""));
         VaneVotes sacks = busy();
-        C.due("with sacks", sacks.digest(), digestOf(sacks, 0, 0, ""));
+        C.due("with sacks", sacks.digest(), Villages.digestOf(sacks, 0, 0, ""));
         VaneVotes slot = busy();
         slot.keep(1);
-        C.due("with a slot", slot.digest(), digestOf(slot, 0, 1, ""));
+        C.due("with a slot", slot.digest(), Villages.digestOf(slot, 0, 1, ""));
         VaneVotes buffer = busy();
         buffer.keep(0);
-        type(buffer, "0=7~!");
-        C.due("with a buffer", buffer.digest(), digestOf(buffer, 1, 0, "0=7~!"));
+        Villages.type(buffer, "0=7~!");
+        C.due("with a buffer", buffer.digest(), Villages.digestOf(buffer, 1, 0, "0=7~!"));
         VaneVotes never = new VaneVotes();
         never.set(0, 6);
         never.vane(3, 3, 1);
         never.bring(0, 0, 3);
-        C.due("without a committee", never.digest(), digestOf(never, 0, 0, ""));
+        C.due("without a committee", never.digest(), Villages.digestOf(never, 0, 0, ""));
     }
 
     private static void looksChangeNothing() {
