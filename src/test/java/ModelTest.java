@@ -163,6 +163,7 @@ public final class ModelTest {
             return got instanceof Double ? Double.doubleToRawLongBits((Double) got) : ((Number) got).longValue();
         } catch (InvocationTargetException e) {
             int index = Arrays.asList(EXCEPTIONS).indexOf(e.getCause().getClass());
+            CHECKS.dueTrue(method + " threw " + e.getCause() + ", which the document never names", index >= 0);
             return THREW + index;
         } catch (IllegalAccessException e) {
             throw new IllegalStateException(e);

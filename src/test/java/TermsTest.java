@@ -297,7 +297,8 @@ public final class TermsTest {
                 for (int code = 33; code <= 126; code++) {
                     VaneVotes x = Villages.typed(place[0] + (char) code);
                     boolean good = place[1].indexOf(code) >= 0;
-                    C.due("firstError of " + place[0] + (char) code, x.firstError(), place[0].length() + (good ? 1 : 0));
+                    int first = place[0].length() + (good ? 1 : 0);
+                    C.due("firstError of " + place[0] + (char) code, x.firstError(), first);
                 }
             }
         });
